@@ -91,9 +91,7 @@ public final class BacklotPlanner {
         Scene dropped = sceneNumbered(scene);
         requirePlanned(dropped);
         int day = plannedDay(dropped);
-        if (day >= 0 && day < plan.length) {
-            plan[day] = null;
-        }
+        put(plan, day, null);
         dropped.state = CUT;
         return day;
     }
@@ -388,6 +386,16 @@ public final class BacklotPlanner {
     }
 
     private void swapDays(int one, int other) {
+        exchange(plan, one, other);
+    }
+
+    private static void put(Scene[] plan, int day, Scene scene) {
+        if (day >= 0 && day < plan.length) {
+            plan[day] = scene;
+        }
+    }
+
+    private static void exchange(Scene[] plan, int one, int other) {
         if (one < 0 || one >= plan.length || other < 0 || other >= plan.length) {
             return;
         }
@@ -668,7 +676,7 @@ public final class BacklotPlanner {
 
         void restore(Scene[] plan) {
             for (int i = 0; i < count && i < SCENES; i++) {
-                plan[days[i]] = scenes[i];
+                put(plan, days[i], scenes[i]);
             }
         }
 
@@ -677,12 +685,8 @@ public final class BacklotPlanner {
             restore(plan);
             int rest = order;
             for (int base = Math.min(count, SCENES); base > 1; base--) {
-                int picked = days[rest % base];
-                int last = days[base - 1];
+                exchange(plan, days[base - 1], days[rest % base]);
                 rest /= base;
-                Scene moved = plan[last];
-                plan[last] = plan[picked];
-                plan[picked] = moved;
             }
         }
     }
