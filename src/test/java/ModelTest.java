@@ -8,7 +8,10 @@ import java.util.TreeMap;
  * from the document in another way: every copy stands for itself, and every day of a plan is gone through.
  */
 public final class ModelTest {
-    private static final int RUNS = 1500;
+    private static final int RUNS = 6000;
+    private static final int PROMISED = 512;
+    // The calls of one look at the end of a run, so that no object sees more than those that are promised.
+    private static final int LOOK = 250;
     private static final int[] ODD = {-1, -2, Integer.MIN_VALUE, Integer.MAX_VALUE, 30, 31, 10, 5, 4, 21, 20};
 
     private static final class Refusal extends RuntimeException {
@@ -461,6 +464,10 @@ public final class ModelTest {
         "better", "least", "stateOf", "dayOf", "sceneOn", "isAllowed", "ahead", "copies", "growth",
         "today", "spent", "cost", "scenes", "refused",
     };
+    private static final String[] QUESTIONS = {
+        "cost", "cost", "spent", "refused", "today", "scenes", "sceneOn", "sceneOn", "dayOf", "dayOf", "stateOf",
+        "isAllowed", "ahead", "copies", "copies", "growth",
+    };
     private static final int[] WEIGHTS = {
         14, 22, 22, 3, 10, 10, 4, 8, 5, 2, 6, 16, 6,
         3, 4, 1, 1, 1, 1, 1, 1, 1,
@@ -599,6 +606,15 @@ public final class ModelTest {
         return due.equals(got) ? "" : call + java.util.Arrays.toString(a) + " answered " + got + ", due is " + due;
     }
 
+    private static String glance(BacklotPlanner x, Model m, Random random, int questions) {
+        StringBuilder wrong = new StringBuilder();
+        for (int i = 0; i < questions; i++) {
+            String call = QUESTIONS[random.nextInt(QUESTIONS.length)];
+            wrong.append(compare(x, m, call, arguments(random, call, m, 29)));
+        }
+        return wrong.toString();
+    }
+
     private static String look(BacklotPlanner x, Model m) {
         StringBuilder wrong = new StringBuilder();
         for (String call : new String[] {"today", "spent", "cost", "scenes", "refused"}) {
@@ -612,7 +628,7 @@ public final class ModelTest {
         }
         for (int day = -1; day <= 30; day++) {
             wrong.append(compare(x, m, "sceneOn", day));
-            for (int scene = 0; scene < m.takes.size(); scene++) {
+            for (int scene = day & 3; scene < m.takes.size(); scene += 4) {
                 wrong.append(compare(x, m, "isAllowed", scene, day));
             }
         }
@@ -631,16 +647,17 @@ public final class ModelTest {
         Model m = new Model();
         StringBuilder told = new StringBuilder();
         int calls = 20 + random.nextInt(180);
+        int questions = (PROMISED - LOOK - calls) / calls;
         int lastDay = random.nextInt(2) == 0 ? 8 : 29;
         boolean isHasty = random.nextInt(3) == 0;
-        for (int i = 0; i < calls; i++) {
+        for (int i = 1; i <= calls; i++) {
             String call = weighed(random);
             if (!isHasty && call.equals("shoot") && random.nextInt(3) != 0) {
                 call = "plays";
             }
             int[] a = arguments(random, call, m, lastDay);
             told.append(call).append(java.util.Arrays.toString(a)).append(' ');
-            String wrong = compare(x, m, call, a) + look(x, m);
+            String wrong = compare(x, m, call, a) + (i < calls ? glance(x, m, random, questions) : look(x, m));
             if (!wrong.isEmpty()) {
                 System.out.println("seed " + seed + ": " + told + "\n  " + wrong);
                 return false;
